@@ -1,0 +1,127 @@
+import java.util.NoSuchElementException;
+
+/** Compares answers with what is due, and tells texts to a mender. */
+final class Check {
+    private int wrong;
+    private int looked;
+
+    void due(String call, long got, long want) {
+        looked++;
+        if (got != want) {
+            wrong++;
+            System.out.println(call + " answered " + got + ", due is " + want);
+        }
+    }
+
+    /** Answers of one call for whats 0, 1, 2 and so on. */
+    void dueRow(String call, int[] got, int... want) {
+        due(call + " length", got.length, want.length);
+        for (int i = 0; i < got.length && i < want.length; i++) {
+            due(call + " [" + i + "]", got[i], want[i]);
+        }
+    }
+
+    void dueNoNode(ProgramMender m, int node, int what) {
+        looked++;
+        try {
+            int got = m.node(node, what);
+            wrong++;
+            System.out.println("node(" + node + ", " + what + ") answered " + got + ", due is an exception");
+        } catch (NoSuchElementException asDue) {
+            looked++;
+        }
+    }
+
+    void dueNoTest(ProgramMender m, int test, int what) {
+        looked++;
+        try {
+            int got = m.test(test, what);
+            wrong++;
+            System.out.println("test(" + test + ", " + what + ") answered " + got + ", due is an exception");
+        } catch (NoSuchElementException asDue) {
+            looked++;
+        }
+    }
+
+    /** The last line of a test's main. */
+    void end() {
+        System.out.println(wrong == 0 ? looked + " answers are as due" : wrong + " answers are not as due");
+        if (wrong != 0) {
+            System.exit(1);
+        }
+    }
+
+    /** Puts a text on the tape, with blanks behind it up to a multiple of twenty: its own length. */
+    static int feed(ProgramMender m, String text) {
+        for (int from = 0; from < text.length(); from += 20) {
+            int[] numbers = new int[5];
+            for (int i = 0; i < 20; i++) {
+                int sign = from + i < text.length() ? text.charAt(from + i) : ' ';
+                numbers[i / 4] = numbers[i / 4] << 8 | sign & 255;
+            }
+            m.feed(numbers[0], numbers[1], numbers[2], numbers[3], numbers[4]);
+        }
+        return text.length();
+    }
+
+    static int program(ProgramMender m, String text) {
+        return m.program(feed(m, text));
+    }
+
+    static int tests(ProgramMender m, String text) {
+        return m.tests(feed(m, text));
+    }
+
+    static ProgramMender told(String program, String tests) {
+        ProgramMender m = new ProgramMender();
+        if (program(m, program) < 0 || tests(m, tests) < 0) {
+            throw new IllegalArgumentException("refused: " + program + " / " + tests);
+        }
+        return m;
+    }
+
+    /** What a fault of this kind at this place is answered with. */
+    static int fault(int place, int kind) {
+        return -2 - (8 * place + kind);
+    }
+
+    static int[] node(ProgramMender m, int node) {
+        int[] row = new int[5];
+        for (int what = 0; what < 5; what++) {
+            row[what] = m.node(node, what);
+        }
+        return row;
+    }
+
+    static int[] mend(ProgramMender m, int k) {
+        int[] row = new int[5];
+        for (int what = 0; what < 5; what++) {
+            row[what] = m.mend(k, what);
+        }
+        return row;
+    }
+
+    static int[] run(ProgramMender m, int test) {
+        int[] row = new int[4];
+        for (int what = 0; what < 4; what++) {
+            row[what] = m.run(test, what);
+        }
+        return row;
+    }
+
+    static int[] pair(ProgramMender m) {
+        int[] row = new int[5];
+        for (int what = 0; what < 5; what++) {
+            row[what] = m.pair(what);
+        }
+        return row;
+    }
+
+    static int[] values(ProgramMender m, int node) {
+        int[] row = new int[4];
+        for (int what = 0; what < 4; what++) {
+            row[what] = m.values(node, what);
+        }
+        return row;
+    }
+}
