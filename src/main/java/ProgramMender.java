@@ -473,6 +473,7 @@ public final class ProgramMender {
         static final int SIGN = 4;
         static final int MARK = 5;
 
+        private static final int MOST_DIGITS = 3;
         private static final String ARITHMETIC = "+-*/%";
         private static final String MARKS = "=(){};";
 
@@ -515,46 +516,39 @@ public final class ProgramMender {
             int sign = byteAt(next);
             if (next >= length) {
                 type = END;
-            } else if (isLetter(sign)) {
+            } else if (sign >= 'a' && sign <= 'z') {
                 scanWord();
-            } else if (isDigit(sign)) {
+            } else if (sign >= '0' && sign <= '9') {
                 scanNumeral();
             } else {
-                scanSign(sign, byteAt(next + 1));
+                scanSign(sign, byteAt(next + 1) == '=' ? signBeforeEqual(sign) : NONE, signAlone(sign));
+            }
+            if (type == WRONG) {
+                refuse(WRONG_TEXT);
             }
         }
 
         private void scanWord() {
             type = WORD;
-            while (next < length && isLetter(text[next])) {
+            while (next < length && text[next] >= 'a' && text[next] <= 'z') {
                 next++;
             }
         }
 
         private void scanNumeral() {
-            type = NUMERAL;
-            while (next < length && isDigit(text[next])) {
-                if (next - place < 3) {
+            while (next < length && text[next] >= '0' && text[next] <= '9') {
+                if (next - place < MOST_DIGITS) {
                     value = 10 * value + text[next] - '0';
                 }
                 next++;
             }
-            if (next - place > 3) {
-                refuse(WRONG_TEXT);
-            }
+            type = next - place <= MOST_DIGITS ? NUMERAL : WRONG;
         }
 
-        private void scanSign(int sign, int behind) {
-            int joined = behind == '=' ? signBeforeEqual(sign) : NONE;
-            type = SIGN;
-            value = joined != NONE ? joined : signAlone(sign);
-            if (value == NONE && MARKS.indexOf((char) sign) >= 0) {
-                type = MARK;
-                value = sign;
-            }
-            if (value == NONE) {
-                refuse(WRONG_TEXT);
-            }
+        private void scanSign(int sign, int joined, int alone) {
+            boolean mark = MARKS.indexOf((char) sign) >= 0;
+            type = joined != NONE || alone != NONE ? SIGN : mark ? MARK : WRONG;
+            value = joined != NONE ? joined : alone != NONE ? alone : sign;
             next += joined != NONE ? 2 : 1;
         }
 
@@ -626,14 +620,6 @@ public final class ProgramMender {
         private int byteAt(int i) {
             return i >= 0 && i < length ? text[i] & 255 : 0;
         }
-
-        private static boolean isLetter(int sign) {
-            return sign >= 'a' && sign <= 'z';
-        }
-
-        private static boolean isDigit(int sign) {
-            return sign >= '0' && sign <= '9';
-        }
     }
 
     /** Reads a program: what the grammar asks at each token, and the limits on what may stand there. */
@@ -670,15 +656,25 @@ public final class ProgramMender {
 
         private void readStatement(int parent, int branch, int depth) {
             int kind = statementKind();
-            if (kind == NONE) {
-                scanner.refuse(WRONG_TEXT);
-            } else if (code.statements >= MOST_STATEMENTS) {
-                scanner.refuse(TOO_MANY);
-            } else {
-                int at = code.size;
-                code.addStatement(kind, scanner.variable(), parent, branch);
+            if (kind == NONE || code.statements >= MOST_STATEMENTS) {
+                scanner.refuse(kind == NONE ? WRONG_TEXT : TOO_MANY);
+                return;
+            }
+            int at = code.size;
+            code.addStatement(kind, scanner.variable(), parent, branch);
+            scanner.advance();
+            if (kind == ASSIGN) {
+                scanner.expectMark('=');
+            }
+            readSides(COMPARE_LEVEL, 0);
+            if (kind == ASSIGN || kind == RETURN) {
+                scanner.expectMark(';');
+                return;
+            }
+            readBlock(at, 0, depth);
+            if (kind == IF && scanner.isWord("else")) {
                 scanner.advance();
-                readRest(at, kind, depth);
+                readBlock(at, 1, depth);
             }
         }
 
@@ -693,22 +689,6 @@ public final class ProgramMender {
                 return WHILE;
             }
             return scanner.isWord("return") ? RETURN : NONE;
-        }
-
-        private void readRest(int at, int kind, int depth) {
-            if (kind == ASSIGN) {
-                scanner.expectMark('=');
-            }
-            readSides(COMPARE_LEVEL, 0);
-            if (kind == ASSIGN || kind == RETURN) {
-                scanner.expectMark(';');
-                return;
-            }
-            readBlock(at, 0, depth);
-            if (kind == IF && scanner.isWord("else")) {
-                scanner.advance();
-                readBlock(at, 1, depth);
-            }
         }
 
         private void readBlock(int parent, int branch, int depth) {
