@@ -72,6 +72,8 @@ public final class MendTest {
         Check.tests(crash, "test 2 1 0 gives 2;test 0 0 0 gives 9 held");
         CHECK.due("with one of them it crashes", crash.unlike(), 2);
         CHECK.due("so they are not alike", crash.mend(1, 4), 1);
+        Check.tests(crash, "test 0 0 0 gives 9 held;test 2 1 0 gives 2");
+        CHECK.due("nor if that test is the first", crash.unlike(), 2);
     }
 
     private static void best() {
@@ -122,8 +124,7 @@ public final class MendTest {
     }
 
     private static void pairAmongSuspects() {
-        String six = "a=1;a=1;a=1;a=1;b=50;c=50;return b*c;";
-        ProgramMender m = Check.told(six, "test 0 0 0 gives 999");
+        ProgramMender m = Check.told("a=1;a=1;a=1;a=1;b=50;c=50;return b*c;", "test 0 0 0 gives 999");
         CHECK.due("no mend", m.mend(-1, 0), 0);
         CHECK.due("no pair", m.pair(0), -2);
         ProgramMender near = Check.told("b=50;c=50;a=1;a=1;a=1;return b+c;", "test 0 0 0 gives 102");
@@ -134,6 +135,14 @@ public final class MendTest {
                 "test 0 0 0 gives 102;test 1 0 0 gives 102;test 1 0 0 gives 102");
         CHECK.due("by rank, not by nodes", ranked.suspect(1, 5), 14);
         CHECK.dueRow("so the pair is found", Check.pair(ranked), 7, 0, 13, 0, 0);
+        String last = "b=50;if x {a=1;a=1;a=1;a=1;c=40;return b*10+c;} return 7;";
+        ProgramMender behind = Check.told(last, "test 1 0 0 gives 549;test 0 0 0 gives 7");
+        CHECK.due("the first node's statement is ranked behind six", behind.suspect(1, 6), 0);
+        CHECK.due("so it is in no pair", behind.pair(0), -2);
+        Check.tests(behind, "test 1 0 0 gives 549");
+        CHECK.dueRow("by nodes it is in none either, for c is behind", Check.pair(behind), -2, -2, -2, -2, -2);
+        ProgramMender six = Check.told("b=50;if x {a=1;c=40;return b*10+c;} return 7;", "test 1 0 0 gives 549;test 0 0 0 gives 7");
+        CHECK.dueRow("of six statements all are", Check.pair(six), 1, 0, 7, 1, 0);
     }
 
     private static void pairAndState() {
