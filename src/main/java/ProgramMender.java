@@ -1140,8 +1140,11 @@ public final class ProgramMender {
         int how;
         int result;
         int askings;
-        /** The statements that the run has done, a bit for each node. */
-        long doneNodes;
+        /**
+         * The statements that the run has come to, a bit for each node: those that it has done, and
+         * the one at which it hangs, for without that one it could go on.
+         */
+        long reached;
         int forcedNode = NONE;
         boolean forcedSo;
         int flippedAsking = NONE;
@@ -1185,18 +1188,20 @@ public final class ProgramMender {
             how = ENDED;
             result = 0;
             askings = 0;
-            doneNodes = 0;
+            reached = 0;
             int at = 0;
             for (int move = 0; move < MOST_MOVES && code.hasStatement(at); move++) {
                 if (code.mark[at] == LEFT_OUT) {
                     at = code.after[at];
-                } else if (steps >= MOST_STEPS) {
+                    continue;
+                }
+                reached |= 1L << at;
+                if (steps >= MOST_STEPS) {
                     how = HANGS;
                     at = NONE;
                 } else {
                     trace[steps] = at;
                     steps++;
-                    doneNodes |= 1L << at;
                     at = workOut(at) ? goOn(at, outcome[at + 1]) : NONE;
                 }
             }
@@ -1303,6 +1308,8 @@ public final class ProgramMender {
         int shownPassing;
         int shownFailing;
         int heldPassing;
+        /** The statements that all shown tests come to which fail. */
+        private long reachedByFailing;
 
         Runs(Code code, Suite suite, Machine machine) {
             this.code = code;
@@ -1314,6 +1321,7 @@ public final class ProgramMender {
             shownPassing = 0;
             shownFailing = 0;
             heldPassing = 0;
+            reachedByFailing = -1L;
             if (code.size == 0) {
                 return;
             }
@@ -1339,6 +1347,7 @@ public final class ProgramMender {
                 shownPassing++;
             } else {
                 shownFailing++;
+                reachedByFailing &= machine.reached;
             }
         }
 
@@ -1352,9 +1361,9 @@ public final class ProgramMender {
             return many;
         }
 
-        /** A run that does not do the statement stays as it is, whatever is changed there. */
+        /** A run that does not come to the statement stays as it is, whatever is changed there. */
         boolean couldMend(int statement) {
-            return shownThatDo(statement, false) == shownFailing;
+            return (reachedByFailing >> statement & 1L) == 1L;
         }
     }
 
@@ -1561,8 +1570,8 @@ public final class ProgramMender {
         private final Machine machine;
         private final Runs runs;
         private final Ranking ranking;
-        /** Of each change by itself: the statements that all tests do which fail with it. */
-        private final long[] doneByFailing = new long[MOST_CHANGES];
+        /** Of each change by itself: the statements that all tests come to which fail with it. */
+        private final long[] reachedByFailing = new long[MOST_CHANGES];
         private final int[] changesBefore = new int[MOST_NODES];
         private long suspects;
         int firstNode;
@@ -1615,21 +1624,21 @@ public final class ProgramMender {
                 int mark = code.mark[n];
                 for (int c = 0; c < changes && index < MOST_CHANGES; c++) {
                     code.apply(n, c);
-                    doneByFailing[index] = doneByAllFailing();
+                    reachedByFailing[index] = reachedByAllFailing();
                     index++;
                     code.restore(n, value, mark);
                 }
             }
         }
 
-        private long doneByAllFailing() {
-            long done = -1L;
+        private long reachedByAllFailing() {
+            long reached = -1L;
             for (int t = 0; t < suite.size; t++) {
                 if (suite.isShown(t) && !machine.passes(t)) {
-                    done &= machine.doneNodes;
+                    reached &= machine.reached;
                 }
             }
-            return done;
+            return reached;
         }
 
         private void tryFirst(int n) {
@@ -1638,7 +1647,7 @@ public final class ProgramMender {
             int changes = code.changeCount(n);
             for (int c = 0; c < changes && !found; c++) {
                 code.apply(n, c);
-                tryOthers(n, c, doneByFailing[changesBefore[n] + c]);
+                tryOthers(n, c, reachedByFailing[changesBefore[n] + c]);
                 code.restore(n, value, mark);
             }
         }
@@ -1647,16 +1656,16 @@ public final class ProgramMender {
          * A test that fails with one change fails with both as well, if it does not come to the
          * other one: so most pairs need no run.
          */
-        private void tryOthers(int first, int itsChange, long done) {
+        private void tryOthers(int first, int itsChange, long reached) {
             for (int n = first + 1; n < code.size && !found; n++) {
-                if (!isIn(suspects & done, n)) {
+                if (!isIn(suspects & reached, n)) {
                     continue;
                 }
                 int value = code.value[n];
                 int mark = code.mark[n];
                 int changes = code.changeCount(n);
                 for (int c = 0; c < changes && !found; c++) {
-                    if (isIn(doneByFailing[changesBefore[n] + c], first)) {
+                    if (isIn(reachedByFailing[changesBefore[n] + c], first)) {
                         code.apply(n, c);
                         if (machine.allShownPass()) {
                             keep(first, itsChange, n, c);

@@ -9,6 +9,8 @@ public final class MendTest {
         alikeByHowTheyEnd();
         best();
         nothingToMend();
+        mendOfAHang();
+        pairOfAHang();
         pair();
         pairIsFirst();
         pairAmongSuspects();
@@ -105,6 +107,53 @@ public final class MendTest {
         CHECK.due("mended", m.mend(-1, 0), 0);
         m.undo();
         CHECK.due("taken back", m.mend(-1, 0), 2);
+    }
+
+    /** The 301st step is not done, but left out it is no step: so a run that hangs there ends. */
+    private static void mendOfAHang() {
+        String hang = "a = 0; while x { x = x - 1; } return 7;";
+        ProgramMender m = Check.told(hang, "test 149 0 0 gives 0;test 149 0 0 gives 0 held;test 148 0 0 gives 7 held");
+        CHECK.due("the return is not done", m.done(0, 8), 0);
+        CHECK.due("how many", m.mend(-1, 0), 1);
+        CHECK.dueRow("the return is left out", Check.mend(m, 0), 8, 0, 1, 1, 0);
+        CHECK.due("unlike", m.unlike(), 1);
+        CHECK.due("best", m.best(), 0);
+        CHECK.due("a mend, so no pair", m.pair(0), -2);
+        CHECK.due("no value of what is not done mends", m.values(9, 0), 0);
+        m.take(8, 0);
+        CHECK.dueRow("it ends", Check.run(m, 0), 0, 0, 300, 1);
+        m.undo();
+        Check.tests(m, "test 150 0 0 gives 0");
+        CHECK.due("two steps more: an asking would be the 301st", m.change(8, 0, 2), 0);
+        ProgramMender block = Check.told("while x { x = x - 1; } if z { return 7; } else { a = 1; }", "test 149 0 1 gives 0");
+        CHECK.dueRow("an if that is done", Check.mend(block, 0), 6, 1, 0, 0, 0);
+        CHECK.dueRow("a return in its block, ranked behind", Check.mend(block, 1), 8, 0, 0, 0, 0);
+        CHECK.due("of a hang some statements ahead none", Check.told("while x { x = x - 1; } b = 1; a = 1; return 7;",
+                "test 149 0 0 gives 0").mend(-1, 0), 0);
+        ProgramMender asked = Check.told("a = 0; while x { x = x - 1; } if y { return 7; }", "test 149 1 0 gives 0");
+        CHECK.due("an if", asked.mend(-1, 0), 1);
+        CHECK.dueRow("is left out with its block", Check.mend(asked, 0), 8, 1, 0, 0, 0);
+        ProgramMender some = Check.told("if y { return 8; } while x { x = x - 1; } return 7;",
+                "test 149 0 0 gives 0;test 0 0 0 gives 0");
+        CHECK.dueRow("one fails as it hangs, one as it returns", Check.mend(some, 0), 10, 0, 0, 0, 0);
+    }
+
+    private static void pairOfAHang() {
+        ProgramMender m = Check.told("if y { return 6; } while x { x = x - 1; } return 7;",
+                "test 149 0 0 gives 0;test 0 1 0 gives 5;test 149 0 0 gives 0 held");
+        CHECK.due("no mend", m.mend(-1, 0), 0);
+        CHECK.dueRow("the greater node is left out", Check.pair(m), 3, 1, 10, 0, 1);
+        ProgramMender lesser = Check.told("if y { while x { x = x - 1; } return 7; } else { return 6; }",
+                "test 149 1 0 gives 0;test 0 0 0 gives 5");
+        CHECK.due("no mend here either", lesser.mend(-1, 0), 0);
+        CHECK.dueRow("the lesser node is left out", Check.pair(lesser), 8, 0, 11, 1, 0);
+        ProgramMender both = Check.told("a = 0; while x { x = x - 1; } b = y; return y + 7;", "test 149 3 0 gives 0");
+        CHECK.due("no mend of two statements too many", both.mend(-1, 0), 0);
+        CHECK.dueRow("the one ahead of the loop may go as well", Check.pair(both), 0, 0, 10, 0, 0);
+        ProgramMender behind = Check.told("while a < x + y { a = a + 1; } if a + a - 298 { return 7; } else { b = 1; c = 1; }",
+                "test 100 49 0 gives 0;test 3 0 0 gives 7");
+        CHECK.due("neither is done", behind.done(0, 18) + behind.done(0, 20), 0);
+        CHECK.dueRow("each without the other would be the 301st", Check.pair(behind), 18, 0, 20, 0, 0);
     }
 
     private static void pair() {

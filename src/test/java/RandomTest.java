@@ -11,6 +11,12 @@ public final class RandomTest {
 
     public static void main(String[] args) {
         int rounds = args.length > 1 ? Integer.parseInt(args[1]) : 200;
+        anyPrograms(rounds);
+        longRuns(rounds / 2);
+        CHECK.end();
+    }
+
+    private static void anyPrograms(int rounds) {
         int mends = 0;
         int pairs = 0;
         for (int round = 0; round < rounds; round++) {
@@ -41,7 +47,44 @@ public final class RandomTest {
         System.out.println("with mends: " + mends + ", with a pair: " + pairs);
         CHECK.due("there were mends", mends > rounds / 10 ? 1 : 0, 1);
         CHECK.due("there were pairs", pairs > rounds / 50 ? 1 : 0, 1);
-        CHECK.end();
+    }
+
+    /** Runs of just about 300 steps: what is changed shortly before, at or behind the 301st matters. */
+    private static void longRuns(int rounds) {
+        int mends = 0;
+        int pairs = 0;
+        int unseen = 0;
+        for (int round = 0; round < rounds; round++) {
+            random = new Random(round);
+            ProgramMender m = new ProgramMender();
+            PlainMender plain = new PlainMender();
+            String text = longProgramText();
+            both("program " + text, Check.program(m, text), plain.program(text));
+            String suite = longSuiteText(plain);
+            both("tests " + suite, Check.tests(m, suite), plain.tests(suite));
+            String of = "long round " + round + ": " + text + " / " + suite;
+            if (pick(4) == 0) {
+                takeOne(m, plain, of);
+            }
+            compareMends(m, plain, of);
+            compareNodes(m, plain, of);
+            mends += m.mend(-1, 0) > 0 ? 1 : 0;
+            pairs += m.pair(0) >= 0 ? 1 : 0;
+            unseen += isMendedUnseen(m) ? 1 : 0;
+        }
+        System.out.println("long runs with mends: " + mends + ", with a pair: " + pairs + ", where a failing run has not been: " + unseen);
+        CHECK.due("long runs had mends", mends > rounds / 10 ? 1 : 0, 1);
+        CHECK.due("long runs had pairs", pairs > rounds / 20 ? 1 : 0, 1);
+        CHECK.due("some were mended where a failing run has not been", unseen > rounds / 20 ? 1 : 0, 1);
+    }
+
+    /** A mend in a statement that a failing test has not done. */
+    private static boolean isMendedUnseen(ProgramMender m) {
+        boolean found = false;
+        for (int k = 0; k < m.mend(-1, 0); k++) {
+            found |= m.spectrum(m.node(m.mend(k, 0), 3), 2) > 0;
+        }
+        return found;
     }
 
     private static void both(String call, int got, int want) {
@@ -65,6 +108,43 @@ public final class RandomTest {
             text.append("return ").append(sides(1)).append(";");
         }
         return text.toString();
+    }
+
+    private static String longProgramText() {
+        String before = pick(3) == 0 ? "" : pick(2) == 0 ? "b = " + pick(3) + ";" : "if y { return " + pick(8) + "; }";
+        String loop = pick(2) == 0 ? "while x { x = x - 1; }" : "while a < x { a = a + 1; b = b + y; }";
+        String behind = pick(2) == 0 ? shortStatement() : pick(2) == 0 ? "if z { " + shortStatement() + " }" : "";
+        String end = pick(3) == 0 ? "" : "return " + (pick(2) == 0 ? pick(8) : "b") + ";";
+        String rest = loop + behind + end;
+        return before + (pick(3) == 0 ? "if z { " + rest + " } else { " + shortStatement() + " }" : rest);
+    }
+
+    private static String shortStatement() {
+        return pick(2) == 0 ? "b = " + pick(9) + ";" : "return " + (pick(2) == 0 ? "z" : pick(9)) + ";";
+    }
+
+    /** Each x is about the least with which the run hangs; what hangs is mostly due 0, as if it came to its end. */
+    private static String longSuiteText(PlainMender plain) {
+        List<String> lines = new ArrayList<>();
+        int most = 1 + pick(3);
+        for (int i = 0; i < most; i++) {
+            int[] row = {pick(4), pick(2), pick(3)};
+            if (pick(4) > 0) {
+                row[0] = leastThatHangs(plain, row) + (pick(2) == 0 ? 0 : pick(3) - 1);
+            }
+            PlainMender.Outcome end = plain.run(row);
+            int due = end.how == 2 ? pick(4) / 3 * pick(4) : pick(3) == 0 ? end.result + 1 : end.result;
+            lines.add("test " + row[0] + " " + row[1] + " " + row[2] + " gives " + due + (pick(4) == 0 ? " held" : ""));
+        }
+        return String.join(";", lines);
+    }
+
+    private static int leastThatHangs(PlainMender plain, int[] row) {
+        int x = 0;
+        while (x < 160 && plain.run(new int[] {x, row[1], row[2]}).how != 2) {
+            x++;
+        }
+        return x;
     }
 
     private static String statement(int depth) {
