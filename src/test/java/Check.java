@@ -4,12 +4,33 @@ import java.util.NoSuchElementException;
 final class Check {
     private int wrong;
     private int looked;
+    private int sentences;
+    private String sentence = "";
+    private int lookedBefore;
+
+    /** The sentence of the document that the answers from here on belong to; one that has none is a fault. */
+    void sentence(String words) {
+        closeSentence();
+        sentences++;
+        sentence = words;
+        lookedBefore = looked;
+    }
 
     void due(String call, long got, long want) {
         looked++;
         if (got != want) {
-            wrong++;
-            System.out.println(call + " answered " + got + ", due is " + want);
+            say(call + " answered " + got + ", due is " + want);
+        }
+    }
+
+    private void say(String what) {
+        wrong++;
+        System.out.println((sentence.isEmpty() ? "" : "\"" + sentence + "\": ") + what);
+    }
+
+    private void closeSentence() {
+        if (!sentence.isEmpty() && looked == lookedBefore) {
+            say("nothing is looked at");
         }
     }
 
@@ -25,8 +46,7 @@ final class Check {
         looked++;
         try {
             int got = m.node(node, what);
-            wrong++;
-            System.out.println("node(" + node + ", " + what + ") answered " + got + ", due is an exception");
+            say("node(" + node + ", " + what + ") answered " + got + ", due is an exception");
         } catch (NoSuchElementException asDue) {
             looked++;
         }
@@ -36,8 +56,7 @@ final class Check {
         looked++;
         try {
             int got = m.test(test, what);
-            wrong++;
-            System.out.println("test(" + test + ", " + what + ") answered " + got + ", due is an exception");
+            say("test(" + test + ", " + what + ") answered " + got + ", due is an exception");
         } catch (NoSuchElementException asDue) {
             looked++;
         }
@@ -45,7 +64,9 @@ final class Check {
 
     /** The last line of a test's main. */
     void end() {
-        System.out.println(wrong == 0 ? looked + " answers are as due" : wrong + " answers are not as due");
+        closeSentence();
+        String of = sentences == 0 ? "" : " of " + sentences + " sentences";
+        System.out.println(wrong == 0 ? looked + " answers" + of + " are as due" : wrong + " answers are not as due");
         if (wrong != 0) {
             System.exit(1);
         }
