@@ -15,40 +15,40 @@ public final class ChangeTest {
 
     private static void numbers() {
         ProgramMender m = Check.told("return 2;", "test 0 0 0 gives 3");
-        makes(m, 1, 3, 1, 0);
+        CHECK.dueChanges(m, 1, 3, 1, 0);
         m.take(1, 1);
-        makes(m, 1, 2, 0);
+        CHECK.dueChanges(m, 1, 2, 0);
         m.take(1, 1);
-        makes(m, 1, 1, -1);
+        CHECK.dueChanges(m, 1, 1, -1);
         m.take(1, 1);
-        makes(m, 1, 0, -2);
+        CHECK.dueChanges(m, 1, 0, -2);
         m.take(1, 1);
-        makes(m, 1, -1, -3, 0);
-        makes(Check.told("return 999;", "test 0 0 0 gives 3"), 1, 1000, 998, 0);
+        CHECK.dueChanges(m, 1, -1, -3, 0);
+        CHECK.dueChanges(Check.told("return 999;", "test 0 0 0 gives 3"), 1, 1000, 998, 0);
     }
 
     private static void variables() {
         ProgramMender m = Check.told("f = z; return a + y;", "test 0 0 0 gives 3");
-        makes(m, 1, 1, 3, 8);
-        makes(m, 4, 1, 2, 8);
-        makes(m, 5, 2, 3, 8);
+        CHECK.dueChanges(m, 1, 1, 3, 8);
+        CHECK.dueChanges(m, 4, 1, 2, 8);
+        CHECK.dueChanges(m, 5, 2, 3, 8);
         m.take(1, 0);
-        makes(m, 1, 2, 3, 8);
+        CHECK.dueChanges(m, 1, 2, 3, 8);
         CHECK.due("variables as told", m.count(6), 4);
         CHECK.due("the one that is set has none", m.changes(0), 1);
-        makes(Check.told("return x;", "test 0 0 0 gives 3"), 1);
-        makes(Check.told("a = b; c = d; e = f; x = y + z;", "test 0 0 0 gives 3"), 1, 0, 1, 2, 3, 5, 6, 7, 8);
+        CHECK.dueChanges(Check.told("return x;", "test 0 0 0 gives 3"), 1);
+        CHECK.dueChanges(Check.told("a = b; c = d; e = f; x = y + z;", "test 0 0 0 gives 3"), 1, 0, 1, 2, 3, 5, 6, 7, 8);
     }
 
     private static void signs() {
-        makes(Check.told("return x + y;", "test 0 0 0 gives 3"), 1, 1, 2, 3, 4);
-        makes(Check.told("return x - y;", "test 0 0 0 gives 3"), 1, 0, 2, 3, 4, -100);
-        makes(Check.told("return x * y;", "test 0 0 0 gives 3"), 1, 0, 1, 3, 4);
-        makes(Check.told("return x / y;", "test 0 0 0 gives 3"), 1, 0, 1, 2, 4, -100);
-        makes(Check.told("return x % y;", "test 0 0 0 gives 3"), 1, 0, 1, 2, 3, -100);
-        makes(Check.told("return x < y;", "test 0 0 0 gives 3"), 1, 6, 7, 8, 9, 10);
-        makes(Check.told("return x == y;", "test 0 0 0 gives 3"), 1, 5, 6, 8, 9, 10);
-        makes(Check.told("return x >= y;", "test 0 0 0 gives 3"), 1, 5, 6, 7, 8, 9);
+        CHECK.dueChanges(Check.told("return x + y;", "test 0 0 0 gives 3"), 1, 1, 2, 3, 4);
+        CHECK.dueChanges(Check.told("return x - y;", "test 0 0 0 gives 3"), 1, 0, 2, 3, 4, -100);
+        CHECK.dueChanges(Check.told("return x * y;", "test 0 0 0 gives 3"), 1, 0, 1, 3, 4);
+        CHECK.dueChanges(Check.told("return x / y;", "test 0 0 0 gives 3"), 1, 0, 1, 2, 4, -100);
+        CHECK.dueChanges(Check.told("return x % y;", "test 0 0 0 gives 3"), 1, 0, 1, 2, 3, -100);
+        CHECK.dueChanges(Check.told("return x < y;", "test 0 0 0 gives 3"), 1, 6, 7, 8, 9, 10);
+        CHECK.dueChanges(Check.told("return x == y;", "test 0 0 0 gives 3"), 1, 5, 6, 8, 9, 10);
+        CHECK.dueChanges(Check.told("return x >= y;", "test 0 0 0 gives 3"), 1, 5, 6, 7, 8, 9);
         ProgramMender m = Check.told("return x - y;", "test 7 2 0 gives -5");
         CHECK.due("the places change", m.change(1, 4, 0), 1);
         CHECK.due("as it is", m.run(0, 1), 5);
@@ -68,10 +68,10 @@ public final class ChangeTest {
     private static void statements() {
         ProgramMender m = Check.told("a = 1; if x { a = 2; } while x { x = 0; a = a + 3; } return a;",
                 "test 0 0 0 gives 5;test 1 0 0 gives 2;test 1 0 0 gives 4;test 1 0 0 gives 0;test 0 0 0 gives 4");
-        makes(m, 0, -100);
-        makes(m, 2, -100, -100);
-        makes(m, 6, -100, -100);
-        makes(m, 14, -100);
+        CHECK.dueChanges(m, 0, -100);
+        CHECK.dueChanges(m, 2, -100, -100);
+        CHECK.dueChanges(m, 6, -100, -100);
+        CHECK.dueChanges(m, 14, -100);
         CHECK.due("denied if: 0 gives 2, 1 gives 4", m.change(2, 0, 0), 1);
         CHECK.due("if left out: 1 gives 4", m.change(2, 1, 0), 1);
         CHECK.due("while left out: 1 gives 2", m.change(6, 1, 0), 1);
@@ -81,17 +81,17 @@ public final class ChangeTest {
 
     private static void minus() {
         ProgramMender m = Check.told("return -(-2);", "test 0 0 0 gives -2");
-        makes(m, 1, -100);
-        makes(m, 2, -100);
-        makes(m, 3, 3, 1, 0);
+        CHECK.dueChanges(m, 1, -100);
+        CHECK.dueChanges(m, 2, -100);
+        CHECK.dueChanges(m, 3, 3, 1, 0);
         CHECK.due("with one", m.change(1, 0, 0), 1);
         m.take(1, 0);
-        makes(m, 1);
-        makes(m, 2, -100);
-        makes(m, 3, 3, 1, 0);
+        CHECK.dueChanges(m, 1);
+        CHECK.dueChanges(m, 2, -100);
+        CHECK.dueChanges(m, 3, 3, 1, 0);
         CHECK.due("one is left", m.run(0, 1), -2);
         m.take(2, 0);
-        makes(m, 2);
+        CHECK.dueChanges(m, 2);
         CHECK.due("none is left", m.run(0, 1), 2);
     }
 
@@ -132,13 +132,5 @@ public final class ChangeTest {
         CHECK.due("left out", m.changes(0), 0);
         CHECK.due("in what is left out", m.changes(1), 0);
         CHECK.due("no change there", m.change(1, 0, 3), -200);
-    }
-
-    private static void makes(ProgramMender m, int node, int... want) {
-        CHECK.due("changes(" + node + ")", m.changes(node), want.length);
-        for (int c = 0; c < want.length; c++) {
-            CHECK.due("change(" + node + ", " + c + ", 3)", m.change(node, c, 3), want[c]);
-        }
-        CHECK.due("one change more", m.change(node, want.length, 3), -200);
     }
 }

@@ -42,6 +42,27 @@ final class Check {
         }
     }
 
+    /** What the changes of a node make: all of them, and no more. */
+    void dueChanges(ProgramMender m, int node, int... want) {
+        due("changes(" + node + ")", m.changes(node), want.length);
+        for (int c = 0; c < want.length; c++) {
+            due("change(" + node + ", " + c + ", 3)", m.change(node, c, 3), want[c]);
+        }
+        due("one change more", m.change(node, want.length, 3), -200);
+        due("one less than 0", m.change(node, -1, 3), -200);
+    }
+
+    void dueSpectrum(ProgramMender m, int node, int... want) {
+        for (int what = 0; what < 4; what++) {
+            due("spectrum(" + node + ", " + what + ")", m.spectrum(node, what), want[what]);
+        }
+    }
+
+    void dueScore(ProgramMender m, int rule, int node, int above, int below) {
+        due("score(" + rule + ", " + node + ", 0)", m.score(rule, node, 0), above);
+        due("score(" + rule + ", " + node + ", 1)", m.score(rule, node, 1), below);
+    }
+
     void dueNoNode(ProgramMender m, int node, int what) {
         looked++;
         try {
@@ -99,6 +120,11 @@ final class Check {
             throw new IllegalArgumentException("refused: " + program + " / " + tests);
         }
         return m;
+    }
+
+    /** What a program returns. */
+    static int value(String program, String inputs) {
+        return told(program, "test " + inputs + " gives 0").run(0, 1);
     }
 
     /** What a fault of this kind at this place is answered with. */

@@ -26,37 +26,37 @@ public final class EdgesOfChangesTest {
 
     private static void numbers() {
         CHECK.sentence("NUMBER: 1 more; 1 less; 0, if it is not 0, 1, -1.");
-        makes(Check.told("return 0;", "test 0 0 0 gives 0"), 1, 1, -1);
-        makes(Check.told("return 1;", "test 0 0 0 gives 0"), 1, 2, 0);
-        makes(Check.told("return 2;", "test 0 0 0 gives 0"), 1, 3, 1, 0);
-        makes(Check.told("return 999;", "test 0 0 0 gives 0"), 1, 1000, 998, 0);
+        CHECK.dueChanges(Check.told("return 0;", "test 0 0 0 gives 0"), 1, 1, -1);
+        CHECK.dueChanges(Check.told("return 1;", "test 0 0 0 gives 0"), 1, 2, 0);
+        CHECK.dueChanges(Check.told("return 2;", "test 0 0 0 gives 0"), 1, 3, 1, 0);
+        CHECK.dueChanges(Check.told("return 999;", "test 0 0 0 gives 0"), 1, 1000, 998, 0);
         ProgramMender m = Check.told("return -1;", "test 0 0 0 gives 0");
-        makes(m, 2, 2, 0);
+        CHECK.dueChanges(m, 2, 2, 0);
         m.take(2, 1);
         m.take(2, 1);
-        makes(m, 2, 0, -2);
+        CHECK.dueChanges(m, 2, 0, -2);
         m.take(2, 1);
-        makes(m, 2, -1, -3, 0);
+        CHECK.dueChanges(m, 2, -1, -3, 0);
         ProgramMender most = Check.told("return 999;", "test 0 0 0 gives 0");
         for (int i = 0; i < 20; i++) {
             most.take(1, 0);
         }
-        makes(most, 1, 1020, 1018, 0);
+        CHECK.dueChanges(most, 1, 1020, 1018, 0);
     }
 
     private static void variables() {
         CHECK.sentence("VARIABLE: each other one that is in the PROGRAM as told, by numbers.");
-        makes(Check.told("return y;", "test 0 0 0 gives 0"), 1);
-        makes(Check.told("y = y;", "test 0 0 0 gives 0"), 1);
-        makes(Check.told("f = x;", "test 0 0 0 gives 0"), 1, 8);
-        makes(Check.told("x = f;", "test 0 0 0 gives 0"), 1, 0);
-        makes(Check.told("f=e;d=c;b=a;z=y+x;", "test 0 0 0 gives 0"), 1, 0, 1, 2, 3, 4, 5, 6, 8);
+        CHECK.dueChanges(Check.told("return y;", "test 0 0 0 gives 0"), 1);
+        CHECK.dueChanges(Check.told("y = y;", "test 0 0 0 gives 0"), 1);
+        CHECK.dueChanges(Check.told("f = x;", "test 0 0 0 gives 0"), 1, 8);
+        CHECK.dueChanges(Check.told("x = f;", "test 0 0 0 gives 0"), 1, 0);
+        CHECK.dueChanges(Check.told("f=e;d=c;b=a;z=y+x;", "test 0 0 0 gives 0"), 1, 0, 1, 2, 3, 4, 5, 6, 8);
         ProgramMender m = Check.told("a = y; return z;", "test 0 0 0 gives 0");
         m.take(3, 0);
         CHECK.due("z is not in the program any more", m.node(3, 1), 1);
-        makes(m, 1, 2, 3);
+        CHECK.dueChanges(m, 1, 2, 3);
         m.take(0, 0);
-        makes(m, 3, 2, 3);
+        CHECK.dueChanges(m, 3, 2, 3);
     }
 
     private static void signs() {
@@ -71,7 +71,7 @@ public final class EdgesOfChangesTest {
             if (places) {
                 want[4] = -100;
             }
-            makes(Check.told("return x" + signs[sign] + "y;", "test 0 0 0 gives 0"), 1, want);
+            CHECK.dueChanges(Check.told("return x" + signs[sign] + "y;", "test 0 0 0 gives 0"), 1, want);
         }
         CHECK.sentence("a COMPARE: each other one, in this order");
         String[] compares = {"<", "<=", "==", "!=", ">", ">="};
@@ -80,7 +80,7 @@ public final class EdgesOfChangesTest {
             for (int c = 0; c < 5; c++) {
                 want[c] = 5 + (c < sign ? c : c + 1);
             }
-            makes(Check.told("return x" + compares[sign] + "y;", "test 0 0 0 gives 0"), 1, want);
+            CHECK.dueChanges(Check.told("return x" + compares[sign] + "y;", "test 0 0 0 gives 0"), 1, want);
         }
     }
 
@@ -89,13 +89,13 @@ public final class EdgesOfChangesTest {
         for (String x : new String[] {"-2", "0", "1", "7"}) {
             boolean zero = x.equals("0");
             ProgramMender m = Check.told("if x { return 5; } else { return 6; } return 7;", "test " + x + " 0 0 gives 0");
-            makes(m, 0, -100, -100);
+            CHECK.dueChanges(m, 0, -100, -100);
             m.take(0, 0);
             CHECK.due("denied if " + x, m.run(0, 1), zero ? 5 : 6);
             m.take(0, 1);
             CHECK.due("left out if " + x, m.run(0, 1), 7);
             ProgramMender loop = Check.told("while x { return 5; } return 6;", "test " + x + " 0 0 gives 0");
-            makes(loop, 0, -100, -100);
+            CHECK.dueChanges(loop, 0, -100, -100);
             loop.take(0, 0);
             CHECK.due("denied while " + x, loop.run(0, 1), zero ? 5 : 6);
             loop.take(0, 1);
@@ -103,8 +103,8 @@ public final class EdgesOfChangesTest {
         }
         CHECK.sentence("of KIND 0, 3: it is left out");
         ProgramMender m = Check.told("a = 5; return a; return 6;", "test 0 0 0 gives 0");
-        makes(m, 0, -100);
-        makes(m, 2, -100);
+        CHECK.dueChanges(m, 0, -100);
+        CHECK.dueChanges(m, 2, -100);
         m.take(0, 0);
         CHECK.due("not set", m.run(0, 1), 0);
         m.take(2, 0);
@@ -116,16 +116,16 @@ public final class EdgesOfChangesTest {
     private static void leftOut() {
         CHECK.sentence("Minus: it is left out (what is behind it stays and has its CHANGES).");
         ProgramMender m = Check.told("return --5;", "test 0 0 0 gives -5");
-        makes(m, 1, -100);
-        makes(m, 2, -100);
+        CHECK.dueChanges(m, 1, -100);
+        CHECK.dueChanges(m, 2, -100);
         m.take(2, 0);
-        makes(m, 1, -100);
-        makes(m, 2);
-        makes(m, 3, 6, 4, 0);
+        CHECK.dueChanges(m, 1, -100);
+        CHECK.dueChanges(m, 2);
+        CHECK.dueChanges(m, 3, 6, 4, 0);
         CHECK.due("one minus", m.run(0, 1), -5);
         m.take(1, 0);
         CHECK.due("none", m.run(0, 1), 5);
-        makes(m, 3, 6, 4, 0);
+        CHECK.dueChanges(m, 3, 6, 4, 0);
         CHECK.sentence("a minus: as what is behind it");
         ProgramMender sides = Check.told("return 9 - -(x - 2) * 3;", "test 7 0 0 gives 0");
         CHECK.due("as told", sides.run(0, 1), 24);
@@ -305,9 +305,9 @@ public final class EdgesOfChangesTest {
         CHECK.due("the return", out.node(2, 0), 3);
         CHECK.due("what is left out is still there", out.node(1, 1), 5);
         out.take(3, 0);
-        makes(out, 3, 1, 2, 3, 4);
+        CHECK.dueChanges(out, 3, 1, 2, 3, 4);
         out.take(5, 2);
-        makes(out, 5, 1, -1);
+        CHECK.dueChanges(out, 5, 1, -1);
         CHECK.sentence("a STATEMENT that is left out has no CHANGES any more, nor what is in it, nor a minus that is");
         ProgramMender in = Check.told("if x { while y { a = -4; } } else { z = 2; } return -z;", "test 0 0 0 gives 1");
         int[] changes = new int[in.count(0)];
@@ -360,15 +360,6 @@ public final class EdgesOfChangesTest {
         }
         CHECK.due("none is left", most.undo(), -1);
         CHECK.due("one is taken again", most.take(0, 1), 1);
-    }
-
-    private static void makes(ProgramMender m, int node, int... want) {
-        CHECK.due("changes(" + node + ")", m.changes(node), want.length);
-        for (int c = 0; c < want.length; c++) {
-            CHECK.due("change(" + node + ", " + c + ", 3)", m.change(node, c, 3), want[c]);
-        }
-        CHECK.due("one change more", m.change(node, want.length, 3), -200);
-        CHECK.due("one less than 0", m.change(node, -1, 3), -200);
     }
 
     /** Nodes and changes of all mends, in their order. */

@@ -22,9 +22,9 @@ public final class EdgesOfRunsTest {
 
     private static void begins() {
         CHECK.sentence("A RUN: x, y, z as told, all others 0.");
-        CHECK.due("x, y, z", value("return x * 1 + y * 2 + z * 4;", "-999 999 -1"), -999 + 2 * 999 - 4);
+        CHECK.due("x, y, z", Check.value("return x * 1 + y * 2 + z * 4;", "-999 999 -1"), -999 + 2 * 999 - 4);
         for (char variable = 'a'; variable <= 'f'; variable++) {
-            CHECK.due("told of " + variable, value("return " + variable + ";", "1 2 3"), 0);
+            CHECK.due("told of " + variable, Check.value("return " + variable + ";", "1 2 3"), 0);
         }
         ProgramMender m = Check.told("a = a + 1; x = x + 1; return a * 10 + x;", "test 1 0 0 gives 12;test 1 0 0 gives 12");
         CHECK.due("nothing is left of another run", m.count(4), 2);
@@ -77,8 +77,8 @@ public final class EdgesOfRunsTest {
         int[][] due = {{7, 2, 3, 1}, {-7, 2, -3, -1}, {7, -2, -3, 1}, {-7, -2, 3, -1}, {1, 2, 0, 1}, {-1, 2, 0, -1}, {0, -5, 0, 0}};
         for (int[] row : due) {
             String inputs = row[0] + " " + row[1] + " 0";
-            CHECK.due(inputs + " by", value("return x / y;", inputs), row[2]);
-            CHECK.due(inputs + " rest", value("return x % y;", inputs), row[3]);
+            CHECK.due(inputs + " by", Check.value("return x / y;", inputs), row[2]);
+            CHECK.due(inputs + " rest", Check.value("return x % y;", inputs), row[3]);
         }
         CHECK.sentence("all wraps (ints)");
         far("a", Integer.MIN_VALUE);
@@ -129,13 +129,13 @@ public final class EdgesOfRunsTest {
         }
         CHECK.sentence("if, while: so, if E is not 0.");
         for (int x : new int[] {-999, -2, -1, 1, 2, 999}) {
-            CHECK.due("if " + x, value("if x { return 5; } return 6;", x + " 0 0"), 5);
-            CHECK.due("while " + x, value("while x { return 5; } return 6;", x + " 0 0"), 5);
+            CHECK.due("if " + x, Check.value("if x { return 5; } return 6;", x + " 0 0"), 5);
+            CHECK.due("while " + x, Check.value("while x { return 5; } return 6;", x + " 0 0"), 5);
         }
-        CHECK.due("if 0", value("if x { return 5; } return 6;", "0 0 0"), 6);
-        CHECK.due("if -0", value("if -x { return 5; } else { return 7; } return 6;", "0 0 0"), 7);
-        CHECK.due("while 0", value("while x { return 5; } return 6;", "0 0 0"), 6);
-        CHECK.due("the least", value(LEAST_AND_GREATEST + "if a { return 5; } return 6;", "0 0 0"), 5);
+        CHECK.due("if 0", Check.value("if x { return 5; } return 6;", "0 0 0"), 6);
+        CHECK.due("if -0", Check.value("if -x { return 5; } else { return 7; } return 6;", "0 0 0"), 7);
+        CHECK.due("while 0", Check.value("while x { return 5; } return 6;", "0 0 0"), 6);
+        CHECK.due("the least", Check.value(LEAST_AND_GREATEST + "if a { return 5; } return 6;", "0 0 0"), 5);
     }
 
     private static void ends() {
@@ -157,57 +157,57 @@ public final class EdgesOfRunsTest {
         CHECK.sentence("of SHOWN TESTS that FAIL (do not PASS), PASS, those in which it is done at least once");
         ProgramMender m = Check.told("while x > 0 { x = x - 1; a = 8 / x; } return a;",
                 "test 0 0 0 gives 0;test 1 0 0 gives 0;test 3 0 0 gives 3;test 0 0 0 gives 1;test 0 0 0 gives 1 held;test 0 0 0 gives 0 held");
-        spectrum(m, 0, 3, 1, 0, 0);
-        spectrum(m, 4, 2, 0, 1, 1);
-        spectrum(m, 8, 2, 0, 1, 1);
-        spectrum(m, 12, 1, 1, 2, 0);
+        CHECK.dueSpectrum(m, 0, 3, 1, 0, 0);
+        CHECK.dueSpectrum(m, 4, 2, 0, 1, 1);
+        CHECK.dueSpectrum(m, 8, 2, 0, 1, 1);
+        CHECK.dueSpectrum(m, 12, 1, 1, 2, 0);
         Check.tests(m, "test 0 0 0 gives 1 held");
-        spectrum(m, 0, 0, 0, 0, 0);
+        CHECK.dueSpectrum(m, 0, 0, 0, 0, 0);
         Check.tests(m, "test 999 0 0 gives 0");
-        spectrum(m, 12, 0, 0, 1, 0);
+        CHECK.dueSpectrum(m, 12, 0, 0, 1, 0);
     }
 
     private static void scores() {
         String text = "if x { a = 1; } if y { a = 2; } return a;";
         CHECK.sentence("of none that FAIL, PASS that part is 0");
         ProgramMender m = Check.told(text, "test 1 0 0 gives 7;test 1 1 0 gives 7");
-        score(m, 0, 0, 1, 1);
-        score(m, 0, 2, 1, 1);
-        score(m, 0, 6, 1, 1);
+        CHECK.dueScore(m, 0, 0, 1, 1);
+        CHECK.dueScore(m, 0, 2, 1, 1);
+        CHECK.dueScore(m, 0, 6, 1, 1);
         Check.tests(m, "test 1 0 0 gives 1");
-        score(m, 0, 2, 0, 1);
+        CHECK.dueScore(m, 0, 2, 0, 1);
         CHECK.sentence("0, if f is 0");
         for (String suite : new String[] {"test 1 0 0 gives 1", "test 1 0 0 gives 9", "test 1 0 0 gives 1;test 1 0 0 gives 9",
             "test 0 1 0 gives 2;test 1 0 0 gives 9", "test 0 1 0 gives 9 held"}) {
             Check.tests(m, suite);
             for (int rule = 0; rule < 3; rule++) {
-                score(m, rule, 6, 0, 1);
+                CHECK.dueScore(m, rule, 6, 0, 1);
             }
         }
         CHECK.sentence("RULE 2: f times f by p and F less f together (0 if f is 0; 1000 if below is 0).");
         Check.tests(m, "test 1 1 0 gives 9");
-        score(m, 2, 6, 1000, 1);
+        CHECK.dueScore(m, 2, 6, 1000, 1);
         Check.tests(m, ("test 1 1 0 gives 9;").repeat(15) + "test 1 1 0 gives 9");
-        score(m, 2, 6, 1000, 1);
+        CHECK.dueScore(m, 2, 6, 1000, 1);
         Check.tests(m, ("test 1 1 0 gives 9;").repeat(15) + "test 1 0 0 gives 9");
-        score(m, 2, 6, 225, 1);
-        score(m, 2, 0, 1000, 1);
+        CHECK.dueScore(m, 2, 6, 225, 1);
+        CHECK.dueScore(m, 2, 0, 1000, 1);
         Check.tests(m, "test 1 1 0 gives 9;test 1 1 0 gives 2");
-        score(m, 2, 6, 1, 1);
+        CHECK.dueScore(m, 2, 6, 1, 1);
         CHECK.sentence("RULE 1: f times f by F times (f and p)");
         Check.tests(m, ("test 1 1 0 gives 9;").repeat(15) + "test 1 1 0 gives 2");
-        score(m, 1, 6, 15, 16);
+        CHECK.dueScore(m, 1, 6, 15, 16);
         Check.tests(m, ("test 1 1 0 gives 2;").repeat(15) + "test 1 1 0 gives 9");
-        score(m, 1, 6, 1, 16);
+        CHECK.dueScore(m, 1, 6, 1, 16);
         CHECK.sentence("RULE 0: f by F, by this and p by P together");
-        score(m, 0, 6, 1, 2);
+        CHECK.dueScore(m, 0, 6, 1, 2);
         Check.tests(m, "test 1 1 0 gives 9;test 1 0 0 gives 9;test 0 0 0 gives 9;" + "test 1 1 0 gives 2;".repeat(4) + "test 1 0 0 gives 1");
-        score(m, 0, 6, 5, 17);
+        CHECK.dueScore(m, 0, 6, 5, 17);
         CHECK.sentence("SCORE by a RULE, above (what 0), below (1), in lowest terms (0 by 1)");
         Check.tests(m, "test 1 1 0 gives 9;".repeat(4) + "test 1 1 0 gives 2;".repeat(3) + "test 1 1 0 gives 2");
-        score(m, 0, 6, 1, 2);
-        score(m, 1, 6, 1, 2);
-        score(m, 2, 6, 4, 1);
+        CHECK.dueScore(m, 0, 6, 1, 2);
+        CHECK.dueScore(m, 1, 6, 1, 2);
+        CHECK.dueScore(m, 2, 6, 4, 1);
     }
 
     private static void ranked() {
@@ -230,10 +230,6 @@ public final class EdgesOfRunsTest {
         ranks(one, 2, 0);
     }
 
-    private static int value(String program, String inputs) {
-        return Check.told(program, "test " + inputs + " gives 0").run(0, 1);
-    }
-
     private static void far(String sides, int want) {
         ProgramMender m = Check.told(LEAST_AND_GREATEST + "return " + sides + ";", "test 0 0 0 gives 0");
         CHECK.due(sides + " ended", m.run(0, 0), 0);
@@ -243,17 +239,6 @@ public final class EdgesOfRunsTest {
     private static void run(String name, String program, String x, int how, int result, int steps) {
         ProgramMender m = Check.told(program, "test " + x + " 0 0 gives 999");
         CHECK.dueRow(name, Check.run(m, 0), how, result, steps, 0);
-    }
-
-    private static void spectrum(ProgramMender m, int node, int... want) {
-        for (int what = 0; what < 4; what++) {
-            CHECK.due("spectrum(" + node + ", " + what + ")", m.spectrum(node, what), want[what]);
-        }
-    }
-
-    private static void score(ProgramMender m, int rule, int node, int above, int below) {
-        CHECK.due("score(" + rule + ", " + node + ", 0)", m.score(rule, node, 0), above);
-        CHECK.due("score(" + rule + ", " + node + ", 1)", m.score(rule, node, 1), below);
     }
 
     private static void ranks(ProgramMender m, int rule, int... want) {

@@ -15,35 +15,35 @@ public final class RunTest {
     }
 
     private static void returned() {
-        CHECK.due("an end without return", value("x = 5;", "1 2 3"), 0);
-        CHECK.due("a return", value("return x * 100 + y * 10 + z;", "1 2 3"), 123);
-        CHECK.due("others are 0", value("return a + b + c + d + e + f;", "1 2 3"), 0);
-        CHECK.due("a return ends it", value("return 1; return 2;", "0 0 0"), 1);
-        CHECK.due("variables are kept", value("a = x; b = a + y; return b * a;", "2 3 0"), 10);
+        CHECK.due("an end without return", Check.value("x = 5;", "1 2 3"), 0);
+        CHECK.due("a return", Check.value("return x * 100 + y * 10 + z;", "1 2 3"), 123);
+        CHECK.due("others are 0", Check.value("return a + b + c + d + e + f;", "1 2 3"), 0);
+        CHECK.due("a return ends it", Check.value("return 1; return 2;", "0 0 0"), 1);
+        CHECK.due("variables are kept", Check.value("a = x; b = a + y; return b * a;", "2 3 0"), 10);
         CHECK.due("each run begins anew", Check.told("a = a + 1; return a;", "test 0 0 0 gives 1;test 0 0 0 gives 1")
                 .count(4), 2);
         ProgramMender m = Check.told("return x;", "test 4 0 0 gives 4;test 4 0 0 gives 5;test 4 0 0 gives 4 held");
         CHECK.dueRow("run 0", Check.run(m, 0), 0, 4, 1, 1);
         CHECK.dueRow("run 1", Check.run(m, 1), 0, 4, 1, 0);
         CHECK.dueRow("run 2", Check.run(m, 2), 0, 4, 1, 1);
-        CHECK.due("a negative return", value("return -x;", "1 0 0"), -1);
+        CHECK.due("a negative return", Check.value("return -x;", "1 0 0"), -1);
     }
 
     private static void arithmetic() {
-        CHECK.due("towards 0", value("return x / y;", "-7 2 0"), -3);
-        CHECK.due("what that leaves", value("return x % y;", "-7 2 0"), -1);
-        CHECK.due("rest by a negative", value("return x % y;", "7 -2 0"), 1);
-        CHECK.due("left first", value("return x - y - z;", "10 3 2"), 5);
-        CHECK.due("times binds more", value("return x + y * z;", "1 2 3"), 7);
-        CHECK.due("brackets", value("return (x + y) * z;", "1 2 3"), 9);
-        CHECK.due("minus binds most", value("return -x * y;", "2 3 0"), -6);
-        CHECK.due("minus of brackets", value("return -(x - y);", "2 5 0"), 3);
-        CHECK.due("compares are numbers", value("return (x < y) + (x < y) * 2;", "1 2 0"), 3);
-        CHECK.due("it wraps", value("a = 999 * 999 * 999; return a * 999 + 1;", "0 0 0"), 999 * 999 * 999 * 999 + 1);
-        CHECK.due("the least by -1", value("a = 64 * 64 * 64 * 64 * 64; a = a + a; return a / -1;", "0 0 0"),
+        CHECK.due("towards 0", Check.value("return x / y;", "-7 2 0"), -3);
+        CHECK.due("what that leaves", Check.value("return x % y;", "-7 2 0"), -1);
+        CHECK.due("rest by a negative", Check.value("return x % y;", "7 -2 0"), 1);
+        CHECK.due("left first", Check.value("return x - y - z;", "10 3 2"), 5);
+        CHECK.due("times binds more", Check.value("return x + y * z;", "1 2 3"), 7);
+        CHECK.due("brackets", Check.value("return (x + y) * z;", "1 2 3"), 9);
+        CHECK.due("minus binds most", Check.value("return -x * y;", "2 3 0"), -6);
+        CHECK.due("minus of brackets", Check.value("return -(x - y);", "2 5 0"), 3);
+        CHECK.due("compares are numbers", Check.value("return (x < y) + (x < y) * 2;", "1 2 0"), 3);
+        CHECK.due("it wraps", Check.value("a = 999 * 999 * 999; return a * 999 + 1;", "0 0 0"), 999 * 999 * 999 * 999 + 1);
+        CHECK.due("the least by -1", Check.value("a = 64 * 64 * 64 * 64 * 64; a = a + a; return a / -1;", "0 0 0"),
                 Integer.MIN_VALUE);
-        CHECK.due("its rest", value("a = 64 * 64 * 64 * 64 * 64; a = a + a; return a % -1;", "0 0 0"), 0);
-        CHECK.due("the least negated", value("a = 64 * 64 * 64 * 64 * 64; a = a + a; return -a;", "0 0 0"),
+        CHECK.due("its rest", Check.value("a = 64 * 64 * 64 * 64 * 64; a = a + a; return a % -1;", "0 0 0"), 0);
+        CHECK.due("the least negated", Check.value("a = 64 * 64 * 64 * 64 * 64; a = a + a; return -a;", "0 0 0"),
                 Integer.MIN_VALUE);
     }
 
@@ -53,7 +53,7 @@ public final class RunTest {
         String[] inputs = {"1 2 0", "2 2 0", "3 2 0"};
         for (int i = 0; i < signs.length; i++) {
             for (int k = 0; k < inputs.length; k++) {
-                CHECK.due(signs[i] + " of " + inputs[k], value("return x " + signs[i] + " y;", inputs[k]), due[i][k]);
+                CHECK.due(signs[i] + " of " + inputs[k], Check.value("return x " + signs[i] + " y;", inputs[k]), due[i][k]);
             }
         }
     }
@@ -132,10 +132,6 @@ public final class RunTest {
         CHECK.due("no program, nothing passes", none.count(4), 0);
         CHECK.due("no program, no trace", none.trace(0, 0), -1);
         CHECK.due("no program, no flip", none.flip(0), -1);
-    }
-
-    private static int value(String program, String inputs) {
-        return Check.told(program, "test " + inputs + " gives 0").run(0, 1);
     }
 
     private static void trace(ProgramMender m, int test, int... want) {

@@ -23,60 +23,60 @@ public final class SuspectTest {
 
     private static void spectrum() {
         ProgramMender m = sample();
-        spectrum(m, 0, 2, 3, 0, 0);
-        spectrum(m, 4, 1, 2, 1, 1);
-        spectrum(m, 6, 2, 3, 0, 0);
-        spectrum(m, 10, 2, 0, 0, 3);
-        spectrum(m, 12, 2, 3, 0, 0);
+        CHECK.dueSpectrum(m, 0, 2, 3, 0, 0);
+        CHECK.dueSpectrum(m, 4, 1, 2, 1, 1);
+        CHECK.dueSpectrum(m, 6, 2, 3, 0, 0);
+        CHECK.dueSpectrum(m, 10, 2, 0, 0, 3);
+        CHECK.dueSpectrum(m, 12, 2, 3, 0, 0);
         CHECK.due("shown that pass", m.count(4), 3);
         CHECK.due("held that pass", m.count(5), 1);
     }
 
     private static void scores() {
         ProgramMender m = sample();
-        score(m, 0, 0, 1, 2);
-        score(m, 0, 4, 3, 7);
-        score(m, 0, 10, 1, 1);
-        score(m, 1, 0, 2, 5);
-        score(m, 1, 4, 1, 6);
-        score(m, 1, 10, 1, 1);
-        score(m, 2, 0, 4, 3);
-        score(m, 2, 4, 1, 3);
-        score(m, 2, 10, 1000, 1);
+        CHECK.dueScore(m, 0, 0, 1, 2);
+        CHECK.dueScore(m, 0, 4, 3, 7);
+        CHECK.dueScore(m, 0, 10, 1, 1);
+        CHECK.dueScore(m, 1, 0, 2, 5);
+        CHECK.dueScore(m, 1, 4, 1, 6);
+        CHECK.dueScore(m, 1, 10, 1, 1);
+        CHECK.dueScore(m, 2, 0, 4, 3);
+        CHECK.dueScore(m, 2, 4, 1, 3);
+        CHECK.dueScore(m, 2, 10, 1000, 1);
     }
 
     private static void noneFails() {
         ProgramMender m = Check.told(TEXT, "test 1 0 0 gives 1;test 0 0 0 gives 3 held");
         for (int rule = 0; rule < 3; rule++) {
-            score(m, rule, 0, 0, 1);
-            score(m, rule, 10, 0, 1);
+            CHECK.dueScore(m, rule, 0, 0, 1);
+            CHECK.dueScore(m, rule, 10, 0, 1);
             CHECK.due("by nodes", m.suspect(rule, 1), 4);
         }
         ProgramMender none = new ProgramMender();
         Check.program(none, TEXT);
-        score(none, 2, 4, 0, 1);
-        spectrum(none, 4, 0, 0, 0, 0);
+        CHECK.dueScore(none, 2, 4, 0, 1);
+        CHECK.dueSpectrum(none, 4, 0, 0, 0, 0);
         CHECK.due("without tests", none.suspect(1, 4), 12);
     }
 
     private static void allFail() {
         ProgramMender m = Check.told(TEXT, "test 1 0 0 gives 7;test 1 1 0 gives 7;test 0 1 0 gives 7");
-        score(m, 0, 0, 1, 1);
-        score(m, 0, 4, 1, 1);
-        score(m, 1, 4, 2, 3);
-        score(m, 2, 4, 4, 1);
-        score(m, 2, 0, 1000, 1);
+        CHECK.dueScore(m, 0, 0, 1, 1);
+        CHECK.dueScore(m, 0, 4, 1, 1);
+        CHECK.dueScore(m, 1, 4, 2, 3);
+        CHECK.dueScore(m, 2, 4, 4, 1);
+        CHECK.dueScore(m, 2, 0, 1000, 1);
         ProgramMender notDone = Check.told(TEXT, "test 1 0 0 gives 7");
-        score(notDone, 0, 10, 0, 1);
-        score(notDone, 1, 10, 0, 1);
-        score(notDone, 2, 10, 0, 1);
-        score(notDone, 2, 4, 1000, 1);
+        CHECK.dueScore(notDone, 0, 10, 0, 1);
+        CHECK.dueScore(notDone, 1, 10, 0, 1);
+        CHECK.dueScore(notDone, 2, 10, 0, 1);
+        CHECK.dueScore(notDone, 2, 4, 1000, 1);
     }
 
     private static void nothingBelow() {
         ProgramMender m = Check.told("if x { } else { a = 2; } return a;", "test 0 0 0 gives 1;test 1 0 0 gives 0");
-        score(m, 2, 2, 1000, 1);
-        score(m, 2, 0, 1, 1);
+        CHECK.dueScore(m, 2, 2, 1000, 1);
+        CHECK.dueScore(m, 2, 0, 1, 1);
         CHECK.due("1000 stands ahead", m.suspect(2, 0), 2);
     }
 
@@ -93,8 +93,8 @@ public final class SuspectTest {
     private static void leftOut() {
         ProgramMender m = sample();
         m.take(10, 0);
-        spectrum(m, 10, 0, 0, 2, 3);
-        score(m, 1, 10, 0, 1);
+        CHECK.dueSpectrum(m, 10, 0, 0, 2, 3);
+        CHECK.dueScore(m, 1, 10, 0, 1);
         CHECK.due("it is ranked last", m.suspect(1, 4), 10);
         m.undo();
         CHECK.due("it is ranked first again", m.suspect(1, 0), 10);
@@ -115,16 +115,5 @@ public final class SuspectTest {
         CHECK.due("suspect rule", m.suspect(3, 0), -1);
         CHECK.due("suspect k", m.suspect(0, 5), -1);
         CHECK.due("suspect k below", m.suspect(0, -1), -1);
-    }
-
-    private static void spectrum(ProgramMender m, int node, int... want) {
-        for (int what = 0; what < 4; what++) {
-            CHECK.due("spectrum(" + node + ", " + what + ")", m.spectrum(node, what), want[what]);
-        }
-    }
-
-    private static void score(ProgramMender m, int rule, int node, int above, int below) {
-        CHECK.due("score(" + rule + ", " + node + ", 0)", m.score(rule, node, 0), above);
-        CHECK.due("score(" + rule + ", " + node + ", 1)", m.score(rule, node, 1), below);
     }
 }
