@@ -261,6 +261,7 @@ public final class EdgesOfChangesTest {
         pair(Check.told("b=50;a=1;a=1;a=1;c=50;return b+c;", "test 0 0 0 gives 102"), 1, 0, 9, 0, 0);
         pair(Check.told("b=50;a=1;a=1;a=1;a=1;c=50;return b+c;", "test 0 0 0 gives 102"), 1, 0, 11, 0, 0);
         pair(Check.told("b=50;a=1;a=1;a=1;a=1;a=1;c=50;return b+c;", "test 0 0 0 gives 102"), -2, -2, -2, -2, -2);
+        pair(Check.told("a=1;a=1;a=1;a=1;a=1;a=1;return a;", "test 0 0 0 gives 5"), -2, -2, -2, -2, -2);
         String passing = "test 0 0 0 gives 0;".repeat(4) + "test 0 0 0 gives 0";
         ProgramMender m = Check.told("b=3;c=0;c=0;c=0;if x{b=7;} return b*z;",
                 "test 0 0 1 gives 4;test 0 0 1 gives 4;test 1 0 1 gives 8;test 1 0 1 gives 8;" + passing);
