@@ -26,6 +26,7 @@ public final class ReadmeTest {
         tests(text, root);
         calls(text);
         commands(text, root);
+        rounds(text, root);
         CHECK.end();
     }
 
@@ -134,6 +135,17 @@ public final class ReadmeTest {
         say("some tests are started", !started.isEmpty());
         for (String test : started) {
             say(test + " is there", Files.exists(root.resolve("src/test/java/" + test + ".java")));
+        }
+    }
+
+    /** Once RandomTest failed for some numbers of rounds, 20 and 400 among them, with every answer as due. */
+    private static void rounds(String text, Path root) throws Exception {
+        say("rounds are told", text.contains("`java -cp build RandomTest . 2000` for more rounds"));
+        for (String rounds : new String[] {"20", "400"}) {
+            Process java = new ProcessBuilder("java", "-cp", System.getProperty("java.class.path"), "RandomTest", root.toString(), rounds)
+                    .redirectErrorStream(true).start();
+            String told = new String(java.getInputStream().readAllBytes());
+            CHECK.due("RandomTest . " + rounds + " says " + told, java.waitFor(), 0);
         }
     }
 }
